@@ -12,6 +12,7 @@ public final class ModelRuns {
     private final LostHosts real = new LostHosts();
     private final Model model = new Model();
     private final List<String> told = new ArrayList<>();
+    private final int losing;
     private final int killing;
     private final int delivering;
     private int calls = 0;
@@ -19,16 +20,29 @@ public final class ModelRuns {
 
     private ModelRuns(int seed) {
         random = new Random(seed);
+        losing = seed % 6;
         killing = seed % 3;
-        delivering = seed % 4 * 4;
+        delivering = seed / 3 % 4 * 4;
     }
 
     private int number(int below) {
         return random.nextInt(40) == 0 ? STRANGE[random.nextInt(STRANGE.length)] : random.nextInt(below);
     }
 
-    private boolean oftenNot() {
-        return random.nextInt(3) == 0;
+    private int object() {
+        return number(Math.min(10, 4 + calls / 8));
+    }
+
+    /** Mostly one to which a LINK leads from a, that the call may find more to do. */
+    private int linkedWith(int a) {
+        int set = Math.max(0, model.ofObject(a, 5));
+        for (int tries = 0; tries < 50 && set != 0; tries++) {
+            int b = random.nextInt(10);
+            if ((set >> b & 1) != 0) {
+                return b;
+            }
+        }
+        return object();
     }
 
     private void same(String call, int got, int want) {
@@ -41,37 +55,60 @@ public final class ModelRuns {
     }
 
     private void change() {
-        int a = number(10);
-        int b = number(10);
-        int c = number(10);
-        int h = number(4);
         int pick = random.nextInt(1000);
-        if (pick < 60) {
-            boolean is = oftenNot();
-            same("object(" + h + ", " + is + ")", real.object(h, is), model.object(h, is));
-        } else if (pick < 140) {
-            boolean is = oftenNot();
-            same("root(" + a + ", " + is + ")", real.root(a, is), model.root(a, is));
-        } else if (pick < 380) {
-            same("link(" + a + ", " + b + ")", real.link(a, b), model.link(a, b));
-        } else if (pick < 480) {
-            same("unlink(" + a + ", " + b + ")", real.unlink(a, b), model.unlink(a, b));
-        } else if (pick < 900) {
-            same("give(" + a + ", " + b + ", " + c + ")", real.give(a, b, c), model.give(a, b, c));
-        } else if (pick < 950) {
-            same("collect(" + h + ")", real.collect(h), model.collect(h));
-        } else if (pick < 970) {
-            same("trace(" + a + ")", real.trace(a), model.trace(a));
-        } else if (pick < 970 + 2 * killing) {
-            same("kill(" + h + ")", real.kill(h), model.kill(h));
-        } else if (pick < 985) {
-            same("recover()", real.recover(), model.recover());
-        } else if (pick < 987) {
-            same("settle()", real.settle(), model.settle());
+        if (pick < 60 || calls < 6) {
+            makeObject();
+        } else if (pick < 420) {
+            changeLinks();
+        } else if (pick < 850) {
+            int x = object();
+            int a = linkedWith(x);
+            int b = random.nextInt(4) == 0 ? x : linkedWith(x);
+            same("give(" + x + ", " + a + ", " + b + ")", real.give(x, a, b), model.give(x, a, b));
+        } else if (pick < 850 + 30 * losing) {
+            lose();
         }
         if (random.nextInt(40) < delivering) {
             int k = number(Math.max(1, model.many(1)));
             same("deliver(" + k + ")", real.deliver(k), model.deliver(k));
+        }
+    }
+
+    private void makeObject() {
+        int h = number(4);
+        boolean is = random.nextBoolean();
+        same("object(" + h + ", " + is + ")", real.object(h, is), model.object(h, is));
+    }
+
+    private void changeLinks() {
+        int a = object();
+        int b = object();
+        int pick = random.nextInt(36);
+        if (pick < 8) {
+            boolean is = random.nextBoolean();
+            same("root(" + a + ", " + is + ")", real.root(a, is), model.root(a, is));
+        } else if (pick < 30) {
+            same("link(" + a + ", " + b + ")", real.link(a, b), model.link(a, b));
+        } else {
+            b = linkedWith(a);
+            same("unlink(" + a + ", " + b + ")", real.unlink(a, b), model.unlink(a, b));
+        }
+    }
+
+    private void lose() {
+        int a = object();
+        int h = number(4);
+        int pick = random.nextInt(100);
+        if (pick < 50) {
+            same("collect(" + h + ")", real.collect(h), model.collect(h));
+        } else if (pick < 70) {
+            same("trace(" + a + ")", real.trace(a), model.trace(a));
+        } else if (pick < 70 + 5 * killing) {
+            same("kill(" + h + ")", real.kill(h), model.kill(h));
+        } else if (pick < 95) {
+            same("recover()", real.recover(), model.recover());
+        } else {
+            same("settle()", real.settle(), model.settle());
         }
     }
 
@@ -117,7 +154,7 @@ public final class ModelRuns {
     }
 
     private boolean run() {
-        int end = random.nextInt(CALLS);
+        int end = CALLS / 4 + random.nextInt(3 * CALLS / 4);
         while (calls < end && !wrong) {
             change();
             if (random.nextInt(3) == 0) {

@@ -126,12 +126,17 @@ public final class PromiseTests {
         due("4 one", x.link(2, 2), STATE);
         due("4 to a GONE one", x.link(0, 4), STATE);
         due("4 from a GONE one", x.link(4, 2), STATE);
+        x.object(0, false);
+        x.object(3, true);
+        x.kill(3);
+        due("4 to a GONE ROOT", x.link(0, 6), STATE);
+        due("4 a GONE ROOT, OUT", x.ofObject(6, 3), 0);
         due("4 the way back is another LINK", x.weight(1, 0), NONE);
         due("4 a -1", x.link(-1, 0), UNKNOWN);
         due("4 b -1", x.link(0, -1), UNKNOWN);
-        due("4 a 5", x.link(5, 0), UNKNOWN);
-        due("4 b 5", x.link(0, 5), UNKNOWN);
-        due("4 both 5", x.link(5, 5), UNKNOWN);
+        due("4 a 7", x.link(7, 0), UNKNOWN);
+        due("4 b 7", x.link(0, 7), UNKNOWN);
+        due("4 both 7", x.link(7, 7), UNKNOWN);
         due("4 b 10", x.link(0, 10), UNKNOWN);
         x.root(2, false);
         due("4 STATE goes ahead, though there is one", x.link(0, 2), STATE);
@@ -861,8 +866,17 @@ public final class PromiseTests {
         x.root(3, true);
         due("19 by a GRANT again", x.reached(), 0b1011000);
         due("19 a RETURN reaches nothing", x.letter(1, 0), 1);
+        x.settle();
+        due("19 a LINK came of the GRANT", x.reached(), 0b1011000);
         x.kill(1);
         due("19 a GONE ROOT", x.reached(), 0);
+        LostHosts y = with("0R1R0");
+        y.link(0, 1);
+        y.link(0, 2);
+        y.give(0, 1, 2);
+        y.deliver(0);
+        y.kill(0);
+        due("19 a GRANT that has arrived is under way no more", y.reached(), 0b010);
     }
 
     private static void promise20Far() {
@@ -946,6 +960,32 @@ public final class PromiseTests {
         due("21 FILLED twice", y.many(6), 2);
     }
 
+    /** Chains of all 10 OBJECTS: upwards over two HOSTS in turn, and downwards on one HOST. */
+    private static void longestChains() {
+        LostHosts x = with("0R1R0R1R0R1R0R1R0R1R");
+        for (int a = 0; a < 9; a++) {
+            x.link(a, a + 1);
+            x.root(a + 1, false);
+        }
+        due("15 BACK of the last", x.back(9, 0), 1023);
+        due("19 REACHED from the first", x.reached(), 1023);
+        due("20 how far", x.far(9), 9);
+        x.root(0, false);
+        due("18 one after the other", x.settle(), 10);
+        due("18 all LETTERS arrived", x.many(1), 0);
+        LostHosts y = with("0000000000R");
+        for (int a = 9; a > 0; a--) {
+            y.link(a, a - 1);
+        }
+        due("12 all behind the last", y.stays(0), 1023);
+        due("11 all stay", y.collect(0), 0);
+        due("13 all are young", y.old(0, 1), 0);
+        due("15 BACK of the first", y.back(0, 0), 1023);
+        due("19 REACHED from the last", y.reached(), 1023);
+        y.root(9, false);
+        due("14 all", y.trace(0), 10);
+    }
+
     public static void main(String[] args) {
         promise1New();
         promise2Object();
@@ -973,6 +1013,7 @@ public final class PromiseTests {
         promise19Reached();
         promise20Far();
         promise21Many();
+        longestChains();
         System.out.println("PromiseTests: " + asked + " answers, " + wrong + " not as due");
         if (wrong != 0) {
             System.exit(1);
