@@ -709,6 +709,7 @@ public final class LostHosts {
                 set |= bit(letters.about[k]);
             }
         }
-        return set;
+        // A GRANT may be under way yet of what is GONE; nothing is REACHED by way of that, either.
+        return set & live;
     }
 }

@@ -367,7 +367,7 @@ final class Model {
         for (int i = 0; i < queue.size(); i++) {
             int a = queue.get(i);
             Set<Integer> next = new TreeSet<>(things.get(a).links.keySet());
-            letters.stream().filter(l -> l.grant && l.a == a).forEach(l -> next.add(l.b));
+            letters.stream().filter(l -> l.grant && l.a == a && !someGone(l.b)).forEach(l -> next.add(l.b));
             for (int b : next) {
                 if (far.putIfAbsent(b, far.get(a) + 1) == null) queue.add(b);
             }

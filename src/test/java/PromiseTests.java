@@ -877,6 +877,35 @@ public final class PromiseTests {
         y.deliver(0);
         y.kill(0);
         due("19 a GRANT that has arrived is under way no more", y.reached(), 0b010);
+        promise19Gone();
+    }
+
+    /** A GRANT of 1 to the ROOT 0, and a GRANT of 2 to 1, under way as 1 becomes GONE; one to a GONE ROOT. */
+    private static void promise19Gone() {
+        LostHosts x = with("0R1R2");
+        x.link(1, 0);
+        x.link(2, 1);
+        x.give(1, 0, 1);
+        x.give(2, 1, 2);
+        x.root(1, false);
+        due("19 by a GRANT, and by one behind it", x.reached(), 0b111);
+        due("20 by two GRANTS", x.far(2), 2);
+        due("21 nothing lost", x.many(5), 0);
+        x.kill(1);
+        due("19 GRANTS are under way yet", x.many(1), 2);
+        due("19 neither a GONE one nor what is behind it", x.reached(), 0b001);
+        due("20 not by way of a GONE one", x.far(2), NONE);
+        due("20 a GONE one", x.far(1), STATE);
+        due("21 lost behind a GONE one", x.many(5), 1);
+        LostHosts y = with("0R1R");
+        y.link(1, 0);
+        y.give(1, 0, 1);
+        y.root(1, false);
+        due("19 a GRANT to a ROOT", y.reached(), 0b11);
+        y.kill(0);
+        due("19 a GRANT to a GONE ROOT", y.reached(), 0);
+        due("20 a GRANT to a GONE ROOT", y.far(1), NONE);
+        due("21 a GRANT to a GONE ROOT", y.many(5), 1);
     }
 
     private static void promise20Far() {
